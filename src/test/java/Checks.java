@@ -2,15 +2,30 @@
 final class Checks {
     private static int made = 0;
     private static int wrong = 0;
+    private static String sentence = "";
 
     private Checks() {
+    }
+
+    /** Runs the test of one sentence of the document, so that what is wrong is told under its words. */
+    static void sentence(String words, Runnable test) {
+        sentence = words + " | ";
+        int before = made;
+        try {
+            test.run();
+        } catch (RuntimeException e) {
+            holds("no call throws: " + e, false);
+        }
+        boolean tested = made > before;
+        holds("the sentence has a test", tested);
+        sentence = "";
     }
 
     static void due(String call, long got, long want) {
         made++;
         if (got != want) {
             wrong++;
-            System.out.println(call + " answered " + got + ", due is " + want);
+            System.out.println(sentence + call + " answered " + got + ", due is " + want);
         }
     }
 
@@ -18,7 +33,7 @@ final class Checks {
         made++;
         if (!isSo) {
             wrong++;
-            System.out.println("not so: " + what);
+            System.out.println(sentence + "not so: " + what);
         }
     }
 
