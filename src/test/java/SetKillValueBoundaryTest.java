@@ -6,7 +6,7 @@ public final class SetKillValueBoundaryTest {
 
     public static void main(String[] args) {
         Checks.sentence("1: no path has a value", SetKillValueBoundaryTest::newObjectIsEmpty);
-        Checks.sentence("1: no path has a value, whatever other objects hold", SetKillValueBoundaryTest::newObjectIsApart);
+        Checks.sentence("1: no path has a value, whatever others hold", SetKillValueBoundaryTest::newObjectIsApart);
         Checks.sentence("2: p is no path number: BAD", SetKillValueBoundaryTest::setOfWrongNumber);
         Checks.sentence("2: p has no value and 40 paths have one: FULL", SetKillValueBoundaryTest::setOfFortyFirst);
         Checks.sentence("2: 39 paths have one: not FULL", SetKillValueBoundaryTest::setOfFortieth);
